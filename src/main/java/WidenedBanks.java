@@ -902,11 +902,7 @@ public final class WidenedBanks {
         }
 
         private int swap(int a, int p, int b, int q) {
-            int refusal = views.writeRefusal(b, q, first.kind, views.kinds[a]);
-            if (refusal != 0) {
-                return refusal;
-            }
-            refusal = views.writeRefusal(a, p, second.kind, views.kinds[b]);
+            int refusal = swapRefusal(a, p, first.kind, b, q, second.kind);
             if (refusal != 0) {
                 return refusal;
             }
@@ -976,16 +972,19 @@ public final class WidenedBanks {
             if (views.readsAnything(b)) {
                 return OPEN;
             }
-            return foretoldAs(step == SWAPPED ? swapRefusal(a, p, b, q) : reckonRefusal(a, b, q));
+            if (step == SWAPPED) {
+                return foretoldAs(swapRefusal(a, p, views.kindRead(a), b, q, views.kindRead(b)));
+            }
+            return foretoldAs(reckonRefusal(a, b, q));
         }
 
         private static int foretoldAs(int refusal) {
             return refusal == 0 ? WELL : OUT - refusal;
         }
 
-        private int swapRefusal(int a, int p, int b, int q) {
-            int refusal = views.writeRefusal(b, q, views.kindRead(a), views.kinds[a]);
-            return refusal != 0 ? refusal : views.writeRefusal(a, p, views.kindRead(b), views.kinds[b]);
+        private int swapRefusal(int a, int p, int kindA, int b, int q, int kindB) {
+            int refusal = views.writeRefusal(b, q, kindA, views.kinds[a]);
+            return refusal != 0 ? refusal : views.writeRefusal(a, p, kindB, views.kinds[b]);
         }
 
         private int reckonRefusal(int a, int b, int q) {
