@@ -18,6 +18,7 @@ public final class Promise05ReadsTest extends Promise {
         unlikeAheadOfPast();
         pastOnBothSides();
         beneathAheadOfAbove();
+        byEachOfFourViews();
         nothingIsNotVoid();
         refusedChangesNothing();
         Due.end();
@@ -279,6 +280,29 @@ public final class Promise05ReadsTest extends Promise {
         x.view(0, 0, 1, 1, 4);
         x.view(16, 0, 1, 1, 0);
         due("UNLIKE above", x.reads(7, 0), UNLIKE);
+    }
+
+    /** Of four VIEWS one upon the other any one may refuse, be it one in the middle. */
+    private static void byEachOfFourViews() {
+        int[][] chains = {{2, 8, 8, 8}, {3, 2, 8, 8}, {3, 5, 4, 8}, {3, 4, 5, 4}, {3, 4, 8, 5}, {3, 8, 4, 8}};
+        for (int[] chain : chains) {
+            due("UNLIKE at one of four", four(3, chain).reads(3, 0), UNLIKE);
+        }
+        read("3 to 3 to 4 to 5 to 6", four(3, new int[] {3, 4, 5, 6}), 3, 0, 6, 0);
+        read("1 to 3 to 4 to 4 to 8", four(1, new int[] {3, 4, 4, 8}), 3, 0, 4, 0);
+        read("1 to 1 to 3 to 8 to 8", four(1, new int[] {1, 3, 8, 8}), 3, 0, 3, 0);
+        WidenedBanks x = four(5, new int[] {5, 6, 7, 8});
+        x.writes(0, 0, 5, 0, 16777219);
+        read("ROUNDED in 6, in the middle of its way", x, 3, 0, 7, 16777220);
+    }
+
+    private static WidenedBanks four(int bank, int[] kinds) {
+        WidenedBanks x = new WidenedBanks();
+        x.bank(bank, 1);
+        for (int view = 0; view < 4; view++) {
+            x.view(view == 0 ? 0 : 9 + view, 0, 1, 1, kinds[view]);
+        }
+        return x;
     }
 
     private static void nothingIsNotVoid() {

@@ -28,6 +28,7 @@ public final class Promise09WritesTest extends Promise {
         pastOnBothSides();
         aboveAheadOfBeneath();
         byEachViewsOwnKind();
+        byEachOfFourViews();
         refusedChangesNothing();
         Due.end();
     }
@@ -161,6 +162,9 @@ public final class Promise09WritesTest extends Promise {
         rounded(6, 2 * two24 + 2, 2 * two24);
         rounded(6, 2 * two24 + 3, 2 * two24 + 4);
         rounded(6, 2 * two24 + 6, 2 * two24 + 8);
+        rounded(6, 4 * two24 + 3, 4 * two24);
+        rounded(6, 4 * two24 + 4, 4 * two24);
+        rounded(6, 4 * two24 + 5, 4 * two24 + 8);
         // Behind 24 digits only 0s: as great as may be, and still the same.
         rounded(6, (two24 - 1) << 36, (two24 - 1) << 36);
         rounded(6, EDGE - (1L << 36), EDGE - (1L << 36));
@@ -183,6 +187,9 @@ public final class Promise09WritesTest extends Promise {
         rounded(7, 2 * two53 + 2, 2 * two53);
         rounded(7, 2 * two53 + 3, 2 * two53 + 4);
         rounded(7, 2 * two53 + 6, 2 * two53 + 8);
+        rounded(7, 4 * two53 + 3, 4 * two53);
+        rounded(7, 4 * two53 + 4, 4 * two53);
+        rounded(7, 4 * two53 + 5, 4 * two53 + 8);
         rounded(7, EDGE - 128, EDGE - 128);
         rounded(7, EDGE - 65, EDGE - 128);
         rounded(7, EDGE - 64, EDGE);
@@ -203,6 +210,16 @@ public final class Promise09WritesTest extends Promise {
         y.view(10, 0, 1, 1, 5);
         due("5 to 6 to 7", y.writes(1, 0, 5, 0, 16777217), 0);
         cell("ROUNDED in 6, on its way to 7", y, 0, 0, 7, 16777216);
+        due("5 to 6, the VIEW that it is handed to, to 7", y.writes(0, 0, 5, 0, 16777219), 0);
+        cell("ROUNDED in 6 ahead of 7", y, 0, 0, 7, 16777220);
+        WidenedBanks w = pair(7, 1, 7);
+        w.view(10, 0, 1, 1, 6);
+        w.view(11, 0, 1, 1, 5);
+        w.view(12, 0, 1, 1, 4);
+        due("4 to 5 to 6 to 7 to 7", w.writes(3, 0, 4, 0, 16777219), 0);
+        cell("ROUNDED in 6, in the middle of its way", w, 0, 0, 7, 16777220);
+        due("5 to 5 to 6 to 7 to 7", w.writes(2, 0, 5, 0, 16777217), 0);
+        cell("ROUNDED in 6, in the middle of its way", w, 0, 0, 7, 16777216);
         WidenedBanks z = pair(7, 1, 7);
         z.writes(0, 0, 6, 0, 16777219);
         cell("of KIND 6, to 7", z, 0, 0, 7, 16777220);
@@ -396,6 +413,28 @@ public final class Promise09WritesTest extends Promise {
         due("4 through two VIEWS of 8 to 10", z.writes(1, 0, 4, 1, 1), 0);
         due("3 through two VIEWS of 8 to 10", z.writes(1, 0, 3, 1, 1), UNLIKE);
         due("NOTHING through two VIEWS of 8 to 10", z.writes(1, 0, 10, 1, 1), 0);
+    }
+
+    /** Of four VIEWS one upon the other any one may refuse; those above it have taken it before. */
+    private static void byEachOfFourViews() {
+        int[][] chains = {{4, 5, 8, 8}, {4, 4, 5, 8}, {4, 4, 4, 5}, {5, 4, 4, 4}};
+        for (int[] chain : chains) {
+            WidenedBanks x = new WidenedBanks();
+            x.bank(4, 1);
+            for (int view = 0; view < 4; view++) {
+                x.view(view == 0 ? 0 : 9 + view, 0, 1, 1, chain[view]);
+            }
+            due("5 to 4 at one of four", x.writes(3, 0, 4, 1, 1), UNLIKE);
+            cell("nothing was WRITTEN", x, 0, 0, 4, 0);
+        }
+        WidenedBanks y = new WidenedBanks();
+        y.bank(7, 1);
+        int[] widening = {6, 5, 4, 3};
+        for (int view = 0; view < 4; view++) {
+            y.view(view == 0 ? 0 : 9 + view, 0, 1, 1, widening[view]);
+        }
+        due("1 to 3 to 4 to 5 to 6 to 7", y.writes(3, 0, 1, 0, -128), 0);
+        cell("the NUMBER is the same", y, 0, 0, 7, -128);
     }
 
     private static void refusedChangesNothing() {

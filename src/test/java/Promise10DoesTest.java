@@ -276,11 +276,13 @@ public final class Promise10DoesTest extends Promise {
     private static void kind6AtTheEdge() {
         // Beyond 2^60 numbers of 24 digits lie 2^37 apart, before it 2^36.
         well(SUM, 6, 1, EDGE, EDGE);
+        well(SUM, 6, 3L << 34, EDGE, EDGE);
         well(SUM, 6, 1L << 36, EDGE, EDGE);
         wide(SUM, 6, (1L << 36) + (1L << 13), EDGE);
         wide(SUM, 6, 1L << 37, EDGE);
         wide(SUM, 6, EDGE, EDGE);
         well(SUM, 6, -1, -EDGE, -EDGE);
+        well(SUM, 6, -(3L << 34), -EDGE, -EDGE);
         well(SUM, 6, -(1L << 36), -EDGE, -EDGE);
         wide(SUM, 6, -(1L << 36) - (1L << 13), -EDGE);
         wide(SUM, 6, -(1L << 37), -EDGE);
@@ -295,6 +297,7 @@ public final class Promise10DoesTest extends Promise {
     private static void kind7AtTheEdge() {
         // Beyond 2^60 numbers of 53 digits lie 256 apart, before it 128.
         well(SUM, 7, 1, EDGE, EDGE);
+        well(SUM, 7, 96, EDGE, EDGE);
         well(SUM, 7, 128, EDGE, EDGE);
         wide(SUM, 7, 129, EDGE);
         wide(SUM, 7, 256, EDGE);

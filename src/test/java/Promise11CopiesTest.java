@@ -14,6 +14,7 @@ public final class Promise11CopiesTest extends Promise {
         placesOutAndPast();
         goneAndBare();
         order2SkipsAtBothTimes();
+        order2WritesOnlyWhatItRead();
         itIsUndoneAsOne();
         refusedChangesNothing();
         Due.end();
@@ -191,6 +192,20 @@ public final class Promise11CopiesTest extends Promise {
         // READ is PAST at place 0, WRITTEN is PAST at place 11.
         due("skipped as it is READ, and as it is WRITTEN", x.copies(1, 2, 2), 1 + 2048);
         cells("two places on", x, 0, 0, 1, 0, 1, 2, 3, 4, 5, 6, 7, 8, 9);
+    }
+
+    /** What an earlier copies() READ at a place must not be WRITTEN where this one READS nothing. */
+    private static void order2WritesOnlyWhatItRead() {
+        WidenedBanks x = row();
+        x.bank(4, 12);
+        x.view(1, 0, 1, 12, 4);
+        due("all 12", x.copies(0, 1, 2), 0);
+        x.view(0, -1, 2, 12, 4);
+        x.bank(4, 12);
+        x.view(2, 0, 1, 12, 4);
+        // Place 0 is PAST, 1 .. 6 are CELLS 1, 3, .. 11, the others are PAST.
+        due("PAST at 0 and from 7 on", x.copies(2, 3, 2), 4095 & ~126);
+        cells("these are let be", x, 2, 0, 1, 3, 5, 7, 9, 11, 0, 0, 0, 0, 0);
     }
 
     private static void itIsUndoneAsOne() {

@@ -103,7 +103,7 @@ public final class Promise14DropsTest extends Promise {
         new Asked(States::bare).stands("STATE: none", STATE, WidenedBanks::drops);
         Asked dropped = new Asked(() -> {
             WidenedBanks x = States.open();
-            while (x.count(2) > 0) {
+            for (int line = x.count(2); line > 0; line--) {
                 x.drops();
             }
             return x;

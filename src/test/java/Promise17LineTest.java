@@ -48,7 +48,7 @@ public final class Promise17LineTest extends Promise {
 
     private static void eachPartOfAStep() {
         WidenedBanks x = States.full();
-        while (x.count(2) > 0) {
+        for (int line = x.count(2); line > 0; line--) {
             x.drops();
         }
         for (int step = 0; step <= 4; step++) {

@@ -26,6 +26,7 @@ public final class Promise19ForecastTest extends Promise {
         swappedBothWays();
         wideMayCome();
         throughViews();
+        theKindThatViewsMakeOfIt();
         voidIsNeverForetold();
         refusedChangesNothing();
         Due.end();
@@ -417,6 +418,26 @@ public final class Promise19ForecastTest extends Promise {
         y.view(10, 0, 1, 1, 8);
         y.view(11, 0, 1, 1, 8);
         one("OPEN through three VIEWS", y, 5, 0, 2, 0, 2, 0);
+    }
+
+    private static void theKindThatViewsMakeOfIt() {
+        for (int bank = 0; bank <= 7; bank++) {
+            for (int lower = 0; lower <= 7; lower++) {
+                for (int to = 0; to <= 7 && widens(bank, lower); to++) {
+                    WidenedBanks x = pair(bank, 1, bank);
+                    x.view(10, 0, 1, 1, lower);
+                    x.view(11, 0, 1, 1, 8);
+                    x.view(12, 0, 1, 1, 8);
+                    x.bank(to, 1);
+                    x.view(1, 0, 1, 1, 8);
+                    String what = bank + " as " + lower + " BY 8 to " + to;
+                    one(what + ", two upon it", x, widens(lower, to) ? 6 : 3, 0, 2, 0, 4, 0);
+                    one(what + ", three upon it", x, widens(lower, to) ? 6 : 3, 0, 3, 0, 4, 0);
+                    int came = x.does(0, 3, 0, 4, 0);
+                    due(what + ", and so it comes", came, widens(lower, to) ? 0 : UNLIKE);
+                }
+            }
+        }
     }
 
     private static void voidIsNeverForetold() {

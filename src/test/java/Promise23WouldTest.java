@@ -8,6 +8,7 @@ public final class Promise23WouldTest extends Promise {
         way1ByItsKindAsItIs();
         way2By8();
         through2Views();
+        through4Views();
         goneAndBareComeInTheirOrder();
         withoutPlaces();
         whateverCellsHave();
@@ -125,6 +126,20 @@ public final class Promise23WouldTest extends Promise {
         due("a NAME BY 8 to 8 to 4", y.would(2, 2, 9), UNLIKE);
         due("2 BY 2 to 8", y.would(2, 1, 2), UNLIKE);
         due("were it of 4: from 4 that is UNLIKE from 6", y.would(2, 0, 8), UNLIKE);
+    }
+
+    private static void through4Views() {
+        int[] kinds = {3, 5, 4, 8};
+        WidenedBanks x = new WidenedBanks();
+        x.bank(3, 1);
+        for (int view = 0; view < 4; view++) {
+            x.view(view == 0 ? 0 : 9 + view, 0, 1, 1, kinds[view]);
+        }
+        due("UNLIKE in the middle: 4 from 5", x.would(3, 0, 8), UNLIKE);
+        due("above 5, were it of 6", x.would(2, 0, 6), 0);
+        due("above 3, were it of 4", x.would(1, 0, 4), 0);
+        due("3 to 4 to 5 to 3: UNLIKE beneath", x.would(2, 1, 3), UNLIKE);
+        due("3 to 3", x.would(0, 1, 3), 0);
     }
 
     private static void goneAndBareComeInTheirOrder() {

@@ -17,7 +17,8 @@ public final class Promise29FewestTest extends Promise {
         twoLeft();
         theLeastTryOfThoseThatDo();
         eachTryMayHangOnWhatCameBefore();
-        eachThatOneOrTwoSeenLeave();
+        partedTwoAndTwo();
+        eachThatCanBeLeft();
         behindFullAndForget();
         nothingChanges();
         refusedChangesNothing();
@@ -168,19 +169,53 @@ public final class Promise29FewestTest extends Promise {
         return KNOWN[kinds];
     }
 
-    private static void eachThatOneOrTwoSeenLeave() {
-        boolean[] asked = new boolean[ALL + 1];
-        for (int seen = 0; seen < 104 * 104; seen++) {
-            WidenedBanks x = new WidenedBanks();
-            x.sees(seen % 26, seen / 26 % 4);
-            x.sees(seen / 104 % 26, seen / 104 / 26);
-            int left = x.unseen(1);
-            if (!asked[left]) {
-                asked[left] = true;
-                few("KINDS " + left, x, least(left)[0], least(left)[1]);
+    /** All sets of KINDS that six SEEN or fewer can leave, each by a shortest way. */
+    private static void eachThatCanBeLeft() {
+        int[] before = new int[ALL + 1];
+        int[] by = new int[ALL + 1];
+        int[] length = new int[ALL + 1];
+        int[] found = new int[ALL + 1];
+        int many = 1;
+        found[0] = ALL;
+        for (int next = 0; next < many; next++) {
+            int left = found[next];
+            due("KINDS " + left + ": asked", askedBehind(left, before, by), left);
+            for (int seen = 0; seen < 104 && length[left] < 6; seen++) {
+                int then = left & soBy(seen % 26, seen / 26);
+                if (then != ALL && before[then] == 0) {
+                    before[then] = left;
+                    by[then] = seen;
+                    length[then] = length[left] + 1;
+                    found[many++] = then;
+                }
             }
         }
-        few("all KINDS, told once more", new WidenedBanks(), least(ALL)[0], least(ALL)[1]);
+        due("many can be left", many > 300 ? 1 : 0, 1);
+    }
+
+    private static int soBy(int attempt, int came) {
+        return came == 0 ? WELL[attempt] : came == 1 ? 2048 : came == 2 ? 4096 : WITH_CELLS & ~WELL[attempt];
+    }
+
+    /** Goes the way from ALL to a set of KINDS on a new object; asks fewest() there; answers what is left. */
+    private static int askedBehind(int kinds, int[] before, int[] by) {
+        WidenedBanks x = new WidenedBanks();
+        for (int at = kinds; at != ALL; at = before[at]) {
+            x.sees(by[at] % 26, by[at] / 26);
+        }
+        few("KINDS " + kinds, x, least(kinds)[0], least(kinds)[1]);
+        return x.unseen(1);
+    }
+
+    private static void partedTwoAndTwo() {
+        WidenedBanks x = new WidenedBanks();
+        x.sees(14, 3);
+        x.sees(0, 3);
+        x.sees(3, 3);
+        x.sees(2, 3);
+        due("4, 8, 9, 10", x.unseen(1), 16 + 256 + 512 + 1024);
+        // BY 0 .. 8 and BY the KIND of a NUMBER part them no better than one and three.
+        few("a NUMBER of KIND 1 BY 8", x, 2, 18);
     }
 
     private static void behindFullAndForget() {

@@ -69,7 +69,7 @@ public final class Promise32CountTest extends Promise {
             x.drops();
             due("an END is gone", x.count(3), open);
         }
-        while (x.count(2) > 0) {
+        for (int line = x.count(2); line > 0; line--) {
             x.drops();
         }
         due("all are gone", x.count(3), 0);

@@ -50,10 +50,10 @@ final class States {
         WidenedBanks x = rich();
         x.bank(12, 1);
         x.view(5, 0, 1, 2, 8);
-        while (x.count(2) < 16) {
+        for (int line = x.count(2); line < 16; line++) {
             x.plans(0, 0, 1, 0, 2);
         }
-        while (x.count(4) < 6) {
+        for (int seen = x.count(4); seen < 6; seen++) {
             x.sees(8, 0);
         }
         return x;
@@ -72,7 +72,7 @@ final class States {
     /** 16 LINES, TURNS among them are open. */
     static WidenedBanks openAndFull() {
         WidenedBanks x = open();
-        while (x.count(2) < 16) {
+        for (int line = x.count(2); line < 16; line++) {
             x.plans(0, 0, 1, 0, 2);
         }
         return x;
@@ -81,7 +81,7 @@ final class States {
     /** LINES that have to do with no turns, and not in the order of their WAVES. */
     static WidenedBanks plain() {
         WidenedBanks x = rich();
-        while (x.count(2) > 0) {
+        for (int line = x.count(2); line > 0; line--) {
             x.drops();
         }
         x.plans(0, 0, 0, 0, 1);
