@@ -8,6 +8,25 @@ abstract class Promise {
     /** For each KIND of NUMBERS those to which it WIDENS, as the document lists them. */
     static final String[] WIDENS = {"0", "134567", "24567", "34567", "4567", "567", "67", "7"};
 
+    private static final long MOST_MILLIS = 60000;
+
+    static {
+        Thread watch = new Thread(Promise::endInTime);
+        watch.setDaemon(true);
+        watch.start();
+    }
+
+    /** No call may fail to end: a test that hangs must fail, not keep .ci/run waiting. */
+    private static void endInTime() {
+        try {
+            Thread.sleep(MOST_MILLIS);
+        } catch (InterruptedException nobodyDoes) {
+            return;
+        }
+        System.out.println("a call has not ended in " + MOST_MILLIS / 1000 + " seconds");
+        Runtime.getRuntime().halt(1);
+    }
+
     static void due(String sentence, long got, long want) {
         Due.due(sentence, got, want);
     }
