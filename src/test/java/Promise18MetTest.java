@@ -12,6 +12,7 @@ public final class Promise18MetTest extends Promise {
         inOneThatLeaves();
         onlyInRuns();
         stillMetBehindUndoBackAndDrops();
+        undoOfTheLatestLeavesItTheLatest();
         refusedChangesNothing();
         Due.end();
     }
@@ -150,6 +151,29 @@ public final class Promise18MetTest extends Promise {
         x.drops();
         x.modes(0, STOP);
         each("the latest", x, 1, 1, 1, 1, 1, 1, 1);
+    }
+
+    /** UNDONE is what runs() did to CELLS; it stays the latest runs(), and the one before it is not told again. */
+    private static void undoOfTheLatestLeavesItTheLatest() {
+        WidenedBanks x = row();
+        x.view(0, 0, 1, 1, 4);
+        x.modes(0, SKIP);
+        x.plans(0, 1, 1, 0, 0);
+        x.plans(0, 0, 1, 0, 2);
+        due("the first", x.runs(), 2);
+        each("the first", x, 1, 0, 0, 0, 0, 0, 0);
+        x.plans(0, 1, 2, 0, 0);
+        x.plans(0, 0, 3, 0, 4);
+        due("the second", x.runs(), 4);
+        each("the second", x, 2, 0, 0, 0, 0, 0, 0);
+        due("one more may be", x.undo(), 1);
+        cell("the second is UNDONE", x, 0, 4, 4, 4);
+        each("the second is still the latest", x, 2, 0, 0, 0, 0, 0, 0);
+        due("none more may be", x.undo(), 0);
+        cell("the first is UNDONE", x, 0, 2, 4, 2);
+        each("the second is still the latest", x, 2, 0, 0, 0, 0, 0, 0);
+        due("none", x.undo(), STATE);
+        each("behind a refused undo()", x, 2, 0, 0, 0, 0, 0, 0);
     }
 
     private static void refusedChangesNothing() {

@@ -25,6 +25,8 @@ public final class Promise19ForecastTest extends Promise {
         sumsWrittenByTheirKind();
         swappedBothWays();
         wideMayCome();
+        unlikeOfTheWriteThoughWideMayComeBefore();
+        asReadsAreToldOneBehindTheOther();
         throughViews();
         theKindThatViewsMakeOfIt();
         voidIsNeverForetold();
@@ -396,6 +398,43 @@ public final class Promise19ForecastTest extends Promise {
             x.writes(0, 1, kind, 0, EDGE);
             one("else it is WELL", x, 6, 1, 0, 0, 0, 1);
             due("and WIDE comes", x.does(1, 0, 0, 0, 1), WIDE);
+        }
+    }
+
+    /** No NUMBER is looked at: of a sum that may be WIDE the refusal of its WRITE is foretold all the same. */
+    private static void unlikeOfTheWriteThoughWideMayComeBefore() {
+        for (int kind = 5; kind <= 7; kind++) {
+            int lesser = kind - 1;
+            long most = lesser == 4 ? MAX : EDGE;
+            WidenedBanks x = pair(kind, 1, kind);
+            x.bank(lesser, 1);
+            x.view(1, 0, 1, 1, kind);
+            x.view(1, 0, 1, 1, lesser);
+            String what = "a sum of KIND " + kind + " to a CELL of " + lesser;
+            one(what, x, 3, 1, 0, 0, 1, 0);
+            due(what + ": UNLIKE comes", x.does(1, 0, 0, 1, 0), UNLIKE);
+            x.writes(0, 0, kind, 0, EDGE);
+            x.writes(2, 0, lesser, 0, most);
+            due(what + ": WIDE comes before it", x.does(1, 0, 0, 1, 0), WIDE);
+            one(what + ", foretold as before", x, 3, 1, 0, 0, 1, 0);
+        }
+    }
+
+    /** READ a, READ b, the terms, WRITTEN: the first of these that is refused so, or is OPEN, counts. */
+    private static void asReadsAreToldOneBehindTheOther() {
+        for (int step = 1; step <= 4; step++) {
+            for (int any = 3; any <= 5; any++) {
+                WidenedBanks x = allBanks();
+                one("a is OPEN, b's READ OUT", x, 5, step, any, 0, 0, 2);
+                one("a is OPEN, b's READ GONE", x, 5, step, any, 0, 1, 0);
+                one("a is OPEN, b's READ BARE", x, 5, step, any, 0, 2, 0);
+                one("a is OPEN, b's READ UNLIKE", x, 5, step, any, 0, 6, 0);
+                one("a is OPEN, b's READ PAST", x, 5, step, any, 0, 0, 1);
+                one("a is OUT, b OPEN", x, 0, step, 0, 2, any, 0);
+                one("a is GONE, b OPEN", x, 1, step, 1, 0, any, 0);
+                one("a is PAST, b OPEN", x, 4, step, any, 1, any, 0);
+                one("a is WELL, b OPEN, WRITTEN UNLIKE", x, 5, step, 0, 0, any, 0);
+            }
         }
     }
 
